@@ -1,8 +1,3 @@
-import java.util.ArrayList;
-import java.util.List;
-import java.util.TreeMap;
-import java.util.TreeSet;
-
 /** Long runs of mixed calls, each answer held against a model that is worked out anew from the document's terms. */
 public final class ModelTest {
     private static final int RUNS = 4000;
@@ -14,112 +9,6 @@ public final class ModelTest {
 
     private static int wrong = 0;
     private static long seed = 1;
-
-    /** The keys of one bucket, and the ending it belongs to. */
-    private record Bucket(int depth, int ending, TreeSet<Integer> keys) {
-        boolean hasEndingOf(int key) {
-            return key % (1 << depth) == ending;
-        }
-    }
-
-    /** The document's terms, word by word. */
-    private static final class Model {
-        private final TreeMap<Integer, Integer> values = new TreeMap<>();
-
-        private static void tellApart(TreeSet<Integer> keys, int depth, int ending, List<Bucket> found) {
-            if (keys.size() <= 4) {
-                found.add(new Bucket(depth, ending, keys));
-                return;
-            }
-            TreeSet<Integer> zeros = new TreeSet<>();
-            TreeSet<Integer> ones = new TreeSet<>();
-            for (int key : keys) {
-                ((key >> depth) % 2 == 0 ? zeros : ones).add(key);
-            }
-            tellApart(zeros, depth + 1, ending, found);
-            tellApart(ones, depth + 1, ending + (1 << depth), found);
-        }
-
-        private static List<Bucket> bucketsOf(TreeSet<Integer> keys) {
-            List<Bucket> found = new ArrayList<>();
-            tellApart(keys, 0, 0, found);
-            return found;
-        }
-
-        private List<Bucket> all() {
-            return bucketsOf(new TreeSet<>(values.keySet()));
-        }
-
-        private Bucket bucketFor(int key) {
-            for (Bucket bucket : all()) {
-                if (bucket.hasEndingOf(key)) {
-                    return bucket;
-                }
-            }
-            throw new IllegalStateException("no bucket for " + key);
-        }
-
-        private static boolean isKey(int key) {
-            return 0 <= key && key <= 255;
-        }
-
-        int put(int key, int value) {
-            if (!isKey(key)) {
-                return -1;
-            }
-            if (!values.containsKey(key) && values.size() == 40) {
-                return -2;
-            }
-            values.put(key, value);
-            return all().size();
-        }
-
-        int remove(int key) {
-            return values.remove(key) == null ? -1 : all().size();
-        }
-
-        int deepest() {
-            return all().stream().mapToInt(Bucket::depth).max().getAsInt();
-        }
-
-        int depthOf(int key) {
-            return isKey(key) ? bucketFor(key).depth() : -1;
-        }
-
-        int load(int key) {
-            return isKey(key) ? bucketFor(key).keys().size() : -1;
-        }
-
-        int inBucket(int key, int k) {
-            if (!isKey(key)) {
-                return -1;
-            }
-            List<Integer> keys = new ArrayList<>(bucketFor(key).keys());
-            return 0 <= k && k < keys.size() ? keys.get(k) : -1;
-        }
-
-        int together(int a, int b) {
-            return isKey(a) && isKey(b) && bucketFor(a).hasEndingOf(b) ? 1 : 0;
-        }
-
-        int ofDepth(int d) {
-            return (int) all().stream().filter(bucket -> bucket.depth() == d).count();
-        }
-
-        int next(int key) {
-            Integer found = values.ceilingKey(key);
-            return found == null ? -1 : found;
-        }
-
-        int growth(int key) {
-            if (!isKey(key)) {
-                return -1;
-            }
-            TreeSet<Integer> more = new TreeSet<>(values.keySet());
-            more.add(key);
-            return bucketsOf(more).size() - all().size();
-        }
-    }
 
     /** A fixed sequence, so that every run of the tests makes the same calls. */
     private static int draw(int bound) {
@@ -153,10 +42,10 @@ public final class ModelTest {
         int k = draw(12) == 0 ? EDGES[draw(EDGES.length)] : draw(6);
         int d = draw(12) == 0 ? EDGES[draw(EDGES.length)] : draw(10);
         switch (draw(12)) {
-            case 0 -> due(run, call, "has", key, 0, x.has(key) ? 1 : 0, model.values.containsKey(key) ? 1 : 0);
-            case 1 -> due(run, call, "get", key, 0, x.get(key), model.values.getOrDefault(key, 0));
-            case 2 -> due(run, call, "size", 0, 0, x.size(), model.values.size());
-            case 3 -> due(run, call, "buckets", 0, 0, x.buckets(), model.all().size());
+            case 0 -> due(run, call, "has", key, 0, x.has(key) ? 1 : 0, model.has(key));
+            case 1 -> due(run, call, "get", key, 0, x.get(key), model.get(key));
+            case 2 -> due(run, call, "size", 0, 0, x.size(), model.size());
+            case 3 -> due(run, call, "buckets", 0, 0, x.buckets(), model.buckets());
             case 4 -> due(run, call, "deepest", 0, 0, x.deepest(), model.deepest());
             case 5 -> due(run, call, "depthOf", key, 0, x.depthOf(key), model.depthOf(key));
             case 6 -> due(run, call, "load", key, 0, x.load(key), model.load(key));
